@@ -326,7 +326,10 @@ public final class LooseHeap {
         return so ? 1 : 0;
     }
 
-    /** The trees. Callers ask has() or hasRoom() first; below that, numbers come from the rows themselves. */
+    /**
+     * The trees. Callers ask has() or hasRoom() first; below that, numbers come from the rows themselves.
+     * What stands beside a root is left as it was: it is written anew when the root comes below another one.
+     */
     private static final class Heap {
         private final int room;
         private final int[] kinds;
@@ -397,7 +400,6 @@ public final class LooseHeap {
             above[job] = NONE;
             ranks[job] = 0;
             firstBelow[job] = NONE;
-            nextBeside[job] = NONE;
             standing[job] = true;
             loosened[job] = false;
             return job;
@@ -459,7 +461,7 @@ public final class LooseHeap {
         private void linkTwo(int one, int other) {
             int upper = isSooner(one, other) ? one : other;
             int under = upper == one ? other : one;
-            int last = lastBelow(upper);
+            int last = besideBefore(upper, NONE);
             if (last == NONE) {
                 firstBelow[upper] = under;
             } else {
@@ -500,15 +502,10 @@ public final class LooseHeap {
 
         private void makeRoot(int job) {
             above[job] = NONE;
-            nextBeside[job] = NONE;
             loosened[job] = false;
         }
 
-        private int lastBelow(int upper) {
-            return besideBefore(upper, NONE);
-        }
-
-        /** The child that comes just ahead of another one; NONE: that is the first. */
+        /** The child that comes just ahead of another one (of NONE: the last); NONE: no child does. */
         private int besideBefore(int upper, int job) {
             int before = NONE;
             int at = firstBelow[upper];

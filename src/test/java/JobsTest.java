@@ -103,6 +103,8 @@ public final class JobsTest {
         y.join();
         children(y, 6, 1, 0);
         due.is(3, "lower(0, 9): like key, lesser number", y.lower(0, 9), 1);
+        due.is(9, "told(4): 0 counts, too", y.told(4), 1);
+        due.is(12, "loose(0): 0", y.loose(0), 0);
         due.is(9, "told(2)", y.told(2), 0);
     }
 
@@ -220,6 +222,7 @@ public final class JobsTest {
         due.is(6, "join() without jobs", x.join(), 0);
         x.put(0, 5);
         due.is(6, "join() of one", x.join(), 0);
+        told(x, 9, "of one job", 1, 1, 0, 1, 0, 0, 0, 0, 1);
         x.put(0, 4);
         x.put(0, 6);
         due.is(6, "join() of three", x.join(), 1);
@@ -250,6 +253,17 @@ public final class JobsTest {
         due.is(7, "bits()", x.bits(), 0);
         due.is(7, "loose(0)", x.loose(0), -1);
         due.is(7, "clear() again", x.clear(), 0);
+        LooseHeap fresh = new LooseHeap();
+        LooseHeap loose = joined(8);
+        loose.lower(4, 50);
+        loose.lower(6, 40);
+        loose.lower(7, 30);
+        loose.clear();
+        for (int job = 0; job < 8; job++) {
+            fresh.put(1, 9 - job);
+            loose.put(1, 9 - job);
+        }
+        due.holds(7, "new jobs have nothing of those that were cleared", State.of(fresh).equals(State.of(loose)));
         due.is(7, "goBack(0): an image stays", x.goBack(0), 8);
     }
 

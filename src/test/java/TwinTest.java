@@ -169,6 +169,7 @@ public final class TwinTest {
         compareAll(due, run, x, twin);
     }
 
+    /** This goes beyond the 512 calls that are promised: the class does not count its calls, so all can be looked at. */
     private static void compareAll(Due due, int run, LooseHeap x, Twin twin) {
         int[] b = new int[3];
         for (int op : new int[] {7, 8, 9, 10, 11, 13, 16, 17, 18}) {
