@@ -371,14 +371,16 @@ public final class LooseHeap {
             count = most;
             linked = other.linked;
             cut = other.cut;
-            System.arraycopy(other.kinds, 0, kinds, 0, most);
-            System.arraycopy(other.keys, 0, keys, 0, most);
-            System.arraycopy(other.above, 0, above, 0, most);
-            System.arraycopy(other.ranks, 0, ranks, 0, most);
-            System.arraycopy(other.firstBelow, 0, firstBelow, 0, most);
-            System.arraycopy(other.nextBeside, 0, nextBeside, 0, most);
-            System.arraycopy(other.standing, 0, standing, 0, most);
-            System.arraycopy(other.loosened, 0, loosened, 0, most);
+            for (int job = 0; job < most; job++) {
+                kinds[job] = other.kinds[job];
+                keys[job] = other.keys[job];
+                above[job] = other.above[job];
+                ranks[job] = other.ranks[job];
+                firstBelow[job] = other.firstBelow[job];
+                nextBeside[job] = other.nextBeside[job];
+                standing[job] = other.standing[job];
+                loosened[job] = other.loosened[job];
+            }
         }
 
         boolean hasRoom() {
