@@ -67,6 +67,23 @@ public final class ImageTest {
         due.holds(22, "all is as image 1 kept it", second.equals(kept(x)));
     }
 
+    private static void keepsAsManyAsThereMayBe() {
+        LooseHeap x = new LooseHeap();
+        for (int job = 0; job < 40; job++) {
+            x.put(job / 3 % 2, 500 - 7 * job);
+        }
+        x.join();
+        x.take();
+        String before = kept(x);
+        due.is(21, "keep(0) of 40 jobs", x.keep(0), 40);
+        x.clear();
+        for (int job = 0; job < 40; job++) {
+            x.put(1 - job / 3 % 2, job);
+        }
+        due.is(22, "goBack(0) to 40 jobs", x.goBack(0), 40);
+        due.holds(22, "all 40 are as they were kept", before.equals(kept(x)));
+    }
+
     /** What happens after goBack is what happened after keep. */
     private static void goesOnAlike() {
         LooseHeap x = made();
@@ -98,6 +115,7 @@ public final class ImageTest {
     public static void main(String[] args) {
         refuses();
         keeps();
+        keepsAsManyAsThereMayBe();
         goesOnAlike();
         leavesTheNet();
         due.end();
