@@ -1,3 +1,8 @@
+import java.util.ArrayList;
+import java.util.Collection;
+import java.util.LinkedHashMap;
+import java.util.List;
+import java.util.Map;
 import java.util.Random;
 
 /** Runs of calls by chance (the same ones every time) on the class and on its twin: all answers are alike. */
@@ -6,7 +11,8 @@ public final class TwinTest {
     private static final int CALLS = 512;
     private static final int[] WILD = {Integer.MIN_VALUE, Integer.MIN_VALUE + 1, -10000, -9999, -2, -1, 0, 1, 2, 7, 8, 9, 14, 39, 40, 41, 9998, 9999, 10000, 999999, 1000000, Integer.MAX_VALUE - 1, Integer.MAX_VALUE};
     private static final String[] NAMES = {"put", "lower", "take", "drop", "join", "clear", "drift", "told", "job", "child", "loose", "bits", "sit", "sits", "net", "road", "tree", "way", "ways", "keep", "goBack"};
-    private static final int[] PROMISES = {2, 3, 4, 5, 6, 7, 8, 9, 10, 11, 12, 13, 14, 15, 16, 17, 18, 19, 20, 21, 22};
+    private static final int FIRST_PROMISE = 2;
+    private static final Collection<Call> LOOKS = looks();
     // How often each call comes, by the kind of run: all alike, a deep heap, a net.
     private static final int[][] OFTEN = {
         {6, 6, 3, 3, 3, 1, 2, 6, 6, 4, 4, 3, 6, 4, 1, 6, 4, 4, 4, 2, 2},
@@ -19,58 +25,6 @@ public final class TwinTest {
 
     private TwinTest(long seed) {
         random = new Random(seed);
-    }
-
-    private static long ask(LooseHeap x, int op, int[] a) {
-        switch (op) {
-            case 0: return x.put(a[0], a[1]);
-            case 1: return x.lower(a[0], a[1]);
-            case 2: return x.take();
-            case 3: return x.drop(a[0]);
-            case 4: return x.join();
-            case 5: return x.clear();
-            case 6: return x.drift(a[0], a[1]);
-            case 7: return x.told(a[0]);
-            case 8: return x.job(a[0], a[1]);
-            case 9: return x.child(a[0], a[1]);
-            case 10: return x.loose(a[0]);
-            case 11: return x.bits();
-            case 12: return x.sit(a[0], a[1], a[2]);
-            case 13: return x.sits(a[0], a[1]);
-            case 14: return x.net(a[0]);
-            case 15: return x.road(a[0], a[1], a[2]);
-            case 16: return x.tree(a[0], a[1]);
-            case 17: return x.way(a[0], a[1]);
-            case 18: return x.ways(a[0], a[1]);
-            case 19: return x.keep(a[0]);
-            default: return x.goBack(a[0]);
-        }
-    }
-
-    private static long ask(Twin x, int op, int[] a) {
-        switch (op) {
-            case 0: return x.put(a[0], a[1]);
-            case 1: return x.lower(a[0], a[1]);
-            case 2: return x.take();
-            case 3: return x.drop(a[0]);
-            case 4: return x.join();
-            case 5: return x.clear();
-            case 6: return x.drift(a[0], a[1]);
-            case 7: return x.told(a[0]);
-            case 8: return x.job(a[0], a[1]);
-            case 9: return x.child(a[0], a[1]);
-            case 10: return x.loose(a[0]);
-            case 11: return x.bits();
-            case 12: return x.sit(a[0], a[1], a[2]);
-            case 13: return x.sits(a[0], a[1]);
-            case 14: return x.net(a[0]);
-            case 15: return x.road(a[0], a[1], a[2]);
-            case 16: return x.tree(a[0], a[1]);
-            case 17: return x.way(a[0], a[1]);
-            case 18: return x.ways(a[0], a[1]);
-            case 19: return x.keep(a[0]);
-            default: return x.goBack(a[0]);
-        }
     }
 
     private int of(int least, int most) {
@@ -151,33 +105,44 @@ public final class TwinTest {
         // A second object takes the same calls, so that what a run asks for its choices costs no call of the first.
         LooseHeap guide = new LooseHeap();
         Twin twin = new Twin();
-        StringBuilder calls = new StringBuilder();
+        List<Call> calls = new ArrayList<>();
         int sort = run % OFTEN.length;
         for (int i = 0; i < CALLS; i++) {
             int op = sort == 1 && i < 40 ? 0 : sort == 1 && i == 40 ? 4 : pick(OFTEN[sort]);
             choose(guide, op);
-            calls.append(NAMES[op]).append('(').append(a[0]).append(", ").append(a[1]).append(", ").append(a[2]).append(") ");
-            long got = ask(x, op, a);
-            long want = ask(twin, op, a);
-            due.is(PROMISES[op], NAMES[op] + " as call " + i + " of run " + run, got, want);
+            Call call = Call.of(NAMES[op], a);
+            calls.add(call);
+            long got = call.on(x);
+            long want = call.on(twin);
+            due.is(FIRST_PROMISE + op, got == want ? "" : call + " as call " + i + " of run " + run, got, want);
             if (got != want) {
                 System.out.println(calls);
                 return;
             }
-            ask(guide, op, a);
+            call.on(guide);
         }
         compareAll(due, run, x, twin);
     }
 
-    /** This goes beyond the 512 calls that are promised: the class does not count its calls, so all can be looked at. */
-    private static void compareAll(Due due, int run, LooseHeap x, Twin twin) {
-        int[] b = new int[3];
-        for (int op : new int[] {7, 8, 9, 10, 11, 13, 16, 17, 18}) {
-            for (b[0] = -1; b[0] <= 40; b[0]++) {
-                for (b[1] = -1; b[1] <= 9; b[1]++) {
-                    due.is(PROMISES[op], NAMES[op] + "(" + b[0] + ", " + b[1] + ") after run " + run, ask(x, op, b), ask(twin, op, b));
+    private static Collection<Call> looks() {
+        Map<String, Call> found = new LinkedHashMap<>();
+        for (String name : new String[] {"told", "job", "child", "loose", "bits", "sits", "tree", "way", "ways"}) {
+            for (int first = -1; first <= 40; first++) {
+                for (int second = -1; second <= 9; second++) {
+                    Call look = Call.of(name, first, second);
+                    found.put(look.toString(), look);
                 }
             }
+        }
+        return found.values();
+    }
+
+    /** This goes beyond the 512 calls that are promised: the class does not count its calls, so all can be looked at. */
+    private static void compareAll(Due due, int run, LooseHeap x, Twin twin) {
+        for (Call look : LOOKS) {
+            long got = look.on(x);
+            long want = look.on(twin);
+            due.is(0, got == want ? "" : look + " after run " + run, got, want);
         }
     }
 
