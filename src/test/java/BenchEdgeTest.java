@@ -47,6 +47,9 @@ public final class BenchEdgeTest {
             "lower(1, 50) = 1", "take() = 1", "sit(1, 7, 1) = NONE", "lower(3, 60) = 1", "keep(1) = 4", "lower(2, 40) = 1", "take() = 2", "sit(0, 0, 1) = NONE", "sit(1, 7, 1) = NONE", "sit(0, 0, 2) = NONE", "put(0, 3)", "goBack(1) = 4",
             "told(0) = 4", "told(1) = 3", "told(2) = 3", "told(3) = 1", "told(4) = 1", "told(5) = 1", "told(6) = 3", "told(7) = 1", "told(8) = 3", "loose(0) = 3", "job(2, 1) = 102", "job(2, 2) = 1", "job(2, 3) = 0", "child(2, 0) = 3", "job(3, 5) = 1",
             "sits(1, 7) = 1", "sits(0, 0) = NONE", "job(4, 0) = UNKNOWN"));
+        sentences.hold(22, "They are as it kept them", Sentences.rows(Sentences.joined(8),
+            "keep(0) = 8", "clear() = 8", "put(0, 9)", "put(0, 8)", "put(0, 7)", "put(0, 6)", "put(0, 5)", "join() = 3", "goBack(0) = 8",
+            "child(0, 0) = 1", "child(0, 1) = 2", "child(0, 2) = 4", "child(0, 3) = NONE", "child(4, 0) = 5", "child(4, 1) = 6", "child(4, 2) = NONE", "child(6, 0) = 7", "told(6) = 7", "told(8) = 4"));
         hold(21, "IMAGES .. keep THE HEAP and BENCHES (not THE NET)", "net(3)", "road(0, 1, 5)", "keep(0) = 0", "net(4) = 1", "goBack(0) = 0", "told(9) = 4", "told(10) = 0");
         hold(21, "IMAGE i keeps: each for itself, and the last that was kept", "put(0, 1)", "keep(0) = 1", "put(0, 2)", "keep(1) = 2", "put(0, 3)", "keep(0) = 3", "goBack(1) = 2", "told(0) = 2", "put(0, 9)", "take() = 0", "goBack(1) = 2", "told(1) = 2", "goBack(0) = 3", "job(2, 1) = 3");
     }

@@ -42,6 +42,7 @@ public final class JobsEdgeTest {
         holdOf(4, 6, "as its last CHILD; in the order in which they came there",
             "child(0, 0) = 1", "child(0, 1) = 2", "lower(1, 50) = 1", "lower(3, 60) = 0", "child(0, 0) = 2", "child(0, 1) = NONE", "child(1, 0) = 3", "lower(0, 40) = 0", "join() = 1",
             "child(0, 0) = 2", "child(0, 1) = 1", "child(0, 2) = NONE", "told(6) = 5", "told(7) = 2");
+        holdOf(8, 5, "those BELOW it directly, in the order in which they came there", "child(0, 0) = 1", "child(0, 1) = 2", "child(0, 2) = 4", "drop(2) = 7", "child(0, 0) = 1", "child(0, 1) = 4", "child(0, 2) = NONE", "drop(1) = 6", "child(0, 0) = 4", "child(0, 1) = NONE");
         holdOf(4, 3, "CUT of a JOB that is BELOW another one: it is a ROOT, not LOOSE. Both are counted.",
             "told(6) = 3", "told(7) = 0", "lower(3, 50) = 1", "job(3, 5) = 1", "job(3, 3) = 2", "told(7) = 0", "lower(1, 60) = 0", "told(7) = 2", "told(6) = 4", "job(3, 3) = NONE", "job(3, 5) = 0", "job(1, 3) = 3", "job(1, 5) = 0");
         hold(10, "RANK: how many", "put(0, 1)", "job(0, 4) = 0", "put(0, 2)", "join()", "job(0, 4) = 1", "put(0, 3)", "put(0, 4)", "join()", "job(0, 4) = 2", "drop(1)", "job(0, 4) = 1", "drop(2)", "job(0, 4) = 1", "child(0, 0) = 3", "drop(3)", "job(0, 4) = 0");
@@ -74,7 +75,7 @@ public final class JobsEdgeTest {
         holdOf(2, 3, "if it is SOONER then than the JOB that it is BELOW, it is LOOSE: 1 it is LOOSE then, 0 not.",
             "job(1, 3) = 0", "lower(1, 100) = 0", "job(1, 5) = 0", "told(2) = 0", "lower(1, 99) = 1", "job(1, 5) = 1", "job(1, 3) = 0", "told(2) = 1", "loose(0) = 1");
         hold(3, "if it is SOONER then than the JOB that it is BELOW, it is LOOSE: of like KEYS that of the lesser number",
-            "put(0, 10)", "put(0, 8)", "join() = 1", "job(0, 3) = 1", "lower(0, 9) = 0", "job(0, 5) = 0", "told(2) = 1", "lower(0, 8) = 1", "job(0, 5) = 1", "told(2) = 0");
+            "put(0, 10)", "put(0, 8)", "join() = 1", "job(0, 3) = 1", "lower(0, 9) = 0", "job(0, 5) = 0", "told(2) = 1", "lower(0, 8) = 1", "job(0, 5) = 1", "told(2) = 0", "told(4) = 1", "loose(0) = 0");
         hold(3, "it is BELOW another one, or is a ROOT: a ROOT is not LOOSE", "put(0, 10)", "put(0, 8)", "lower(0, 9) = 0", "lower(0, 7) = 0", "told(4) = 0", "join() = 1", "lower(0, -9999) = 0", "told(4) = 0");
         holdOf(4, 3, "it is LOOSE (or stays so)", "lower(3, 50) = 1", "lower(3, 40) = 1", "told(4) = 1", "told(7) = 0", "job(3, 3) = 2", "lower(2, 30) = 1", "lower(3, 35) = 1", "job(3, 5) = 1", "told(4) = 2", "told(7) = 0");
         hold(3, "UNKNOWN", "lower(0, 0) = UNKNOWN", "put(0, 5)", "lower(-1, 0) = UNKNOWN", "lower(1, 0) = UNKNOWN", "lower(40, 0) = UNKNOWN", "lower(" + MIN + ", 0) = UNKNOWN", "lower(" + MAX + ", 0) = UNKNOWN", "lower(0, 0) = 0");
@@ -101,6 +102,8 @@ public final class JobsEdgeTest {
             "lower(1, 50)", "lower(3, 60)", "take() = 1", "sit(0, 0, 1) = NONE", "take() = 3", "sit(1, 7, 3) = NONE", "told(6) = 4", "told(7) = 2", "clear() = 4",
             "told(0) = 0", "told(1) = 0", "told(2) = NONE", "told(3) = 0", "told(4) = 0", "told(5) = NONE", "told(6) = 0", "told(7) = 0", "told(8) = 0", "sits(0, 0) = NONE", "sits(1, 7) = NONE",
             "take() = NOT", "drop(0) = UNKNOWN", "job(0, 0) = UNKNOWN", "bits() = 0", "put(0, 1)", "job(0, 4) = 0", "sit(0, 0, 0) = NOT");
+        holdOf(4, 7, "No JOBS: those that are PUT then are new ones",
+            "lower(3, 50) = 1", "lower(2, 60) = 1", "clear() = 4", "4 x put(1, 7)", "told(3) = 4", "told(4) = 0", "told(5) = 0", "loose(0) = NONE", "loose(1) = NONE", "job(0, 4) = 0", "child(0, 0) = NONE", "job(3, 3) = NONE", "job(3, 5) = 0", "job(2, 7) = 1");
         hold(7, "No JOBS, BENCHES are empty: THE NET and IMAGES are as they were", "net(2)", "road(0, 1, 3)", "put(0, 1)", "keep(0) = 1", "clear() = 1", "told(9) = 2", "told(10) = 1", "way(0, 1) = 3", "goBack(1) = NOT", "goBack(0) = 1");
     }
 

@@ -11,7 +11,7 @@ public final class RefusalTest {
     private static final int MAX = Integer.MAX_VALUE;
     private static final int[] KINDS = {MIN, -1, 0, 1, 2, MAX};
     private static final int[] KEYS = {MIN, -10000, -9999, 0, 55, 9999, 10000, MAX};
-    private static final int[] JOBS = {MIN, -1, 0, 1, 3, 15, 16, 39, 40, MAX};
+    private static final int[] JOBS = {MIN, -1, 0, 1, 3, 15, 17, 18, 39, 40, MAX};
     private static final int[] PLACES = {MIN, -1, 0, 1, 4, 5, 7, 8, MAX};
     private static final int[] WEIGHTS = {MIN, -1, 0, 9999, 10000, MAX};
     private static final int[] WHATS = {MIN, -1, 0, 3, 4, 5, 8, 9, 10, 11, MAX};
@@ -79,13 +79,14 @@ public final class RefusalTest {
         due.holds(0, refusals + " refusals " + state, refusals >= leastRefusals);
     }
 
+    // Each state but the first and the last has two roots of rank 0, so that a call that joins is seen.
     public static void main(String[] args) {
         in("on a new object", 800);
         String[] growing = Sentences.rows(Sentences.joined(16),
-            "lower(12, 50)", "lower(14, 40)", "lower(7, 30)", "take()", "sit(1, 5, 7)", "drop(3)", "sit(0, 0, 3)", "drop(0)", "lower(15, 20)", "net(5)", "road(0, 4, 3)", "road(4, 2, 5)", "road(1, 3, 9998)", "keep(0)", "lower(13, 10)");
-        in("with 16 jobs, loose ones among them, and a net of 5", 500, growing);
+            "lower(12, 50)", "lower(14, 40)", "lower(7, 30)", "take()", "sit(1, 5, 7)", "drop(3)", "sit(0, 0, 3)", "drop(0)", "lower(15, 20)", "net(5)", "road(0, 4, 3)", "road(4, 2, 5)", "road(1, 3, 9998)", "keep(0)", "lower(13, 10)", "put(0, 60)", "put(1, 70)");
+        in("with 18 jobs, loose ones among them, and a net of 5", 500, growing);
         in("with all that there may be", 500,
-            "20 x put(0, 55)", "19 x put(1, 54)", "put(1, 9999)", "join()", "keep(1)", "5 x take()", "lower(3, 10)", "lower(15, 9)", "sit(0, 7, 20)", "sit(1, 7, 21)", "net(8)", "13 x road(0, 7, 9999)", "road(1, 0, 0)", "keep(0)");
+            "18 x put(0, 55)", "19 x put(1, 54)", "put(1, 9999)", "join()", "keep(1)", "5 x take()", "lower(3, 10)", "lower(15, 9)", "sit(0, 7, 18)", "sit(1, 7, 19)", "put(0, 55)", "put(1, 55)", "net(8)", "13 x road(0, 7, 9999)", "road(1, 0, 0)", "keep(0)");
         in("with all jobs taken", 500, "put(1, 1)", "put(0, 0)", "put(1, -9999)", "put(1, 9999)", "join()", "4 x take()", "sit(0, 0, 0)", "sit(1, 4, 3)", "net(2)", "keep(1)");
         due.end();
     }
