@@ -68,6 +68,20 @@ public final class JobsEdgeTest {
         hold(2, "PUT: a new JOB, a ROOT of RANK 0 (nothing is JOINED).", "put(0, 1)", "put(0, 2)", "told(3) = 2", "told(6) = 0", "job(0, 4) = 0", "job(1, 4) = 0", "job(1, 3) = NONE", "job(1, 5) = 0", "job(1, 6) = 0", "job(1, 7) = 1");
     }
 
+    /**
+     * Three of one rank: 9 comes to stand above 25 (33, 13, 18, 28 of ranks 0 to 3 below it) and 0 (1, 2, 4, 8, 16; 2 of rank 1, 4 of rank 2).
+     * With 5 and 33 cut, 4 has rank 1 as 2, and 25 rank 3 as 28; with 2 and 4 cut, 0 has rank 3, too.
+     */
+    private static void threeOfOneRank() {
+        holdOf(32, 3, "of the least such RANK those two of the least numbers are CUT .. and LINKED",
+            "lower(12, 62) = 1", "lower(20, 70) = 0", "lower(10, 60) = 1", "lower(18, 68) = 0", "lower(9, 59) = 1", "lower(17, 67) = 0", "8 x put(0, 200)", "join() = 8",
+            "lower(20, 40) = 1", "lower(28, 39) = 0", "lower(14, 38) = 1", "lower(18, 37) = 0", "lower(11, 36) = 1", "lower(13, 35) = 0", "lower(33, 34) = 1", "lower(25, 33) = 0", "lower(9, -100) = 0", "join() = 5",
+            "job(9, 4) = 6", "child(9, 4) = 25", "child(9, 5) = 0", "told(6) = 51", "told(7) = 14", "told(4) = 0",
+            "lower(0, -101) = 1", "lower(25, -102) = 1", "lower(28, -103) = 1", "lower(4, -104) = 1", "lower(2, -105) = 1", "lower(33, -106) = 1",
+            "loose(0) = 33", "loose(1) = 2", "loose(2) = 4", "loose(3) = 28", "loose(4) = 25", "loose(5) = 0", "told(4) = 6", "told(7) = 14", "lower(5, -107) = 0",
+            "told(7) = 20", "told(6) = 54", "told(4) = 1", "loose(3) = 28", "job(28, 3) = 25", "job(33, 3) = 5", "job(4, 3) = 2", "job(0, 3) = 25", "job(25, 3) = NONE", "job(25, 4) = 4", "job(0, 4) = 3", "job(9, 4) = 4");
+    }
+
     private static void lowered() {
         hold(3, "NOT: it does not STAND, KEY is not lesser.",
             "put(0, 5)", "lower(0, 6) = NOT", "lower(0, 5) = NOT", "lower(0, 4) = 0", "lower(0, 4) = NOT", "take() = 0", "lower(0, 3) = NOT", "lower(0, 4) = NOT", "lower(0, 5) = NOT", "job(0, 1) = 4");
@@ -139,6 +153,7 @@ public final class JobsEdgeTest {
         bounds();
         soonerAndTrees();
         settledAndJoined();
+        threeOfOneRank();
         lowered();
         taken();
         joinAndClear();

@@ -60,7 +60,7 @@ final class Sentences {
         return rows;
     }
 
-    private static long number(String text) {
+    static long number(String text) {
         if (Character.isUpperCase(text.charAt(0))) {
             return constant(text);
         }
